@@ -826,9 +826,9 @@ public final class TruckWing {
     }
 
     /**
-     * The best split of an ORDER: for each INDEX j of it, the best READY at j of those plans in which a block ends at j.
-     * A block's minutes depend on the block alone, so the best up to j is made of a best one up to where its last block
-     * begins.
+     * The best split of an ORDER: for each INDEX j of it, the least READY at j of those plans in which a block ends
+     * at j. A block's minutes depend on the block alone, so the best up to j is made of a best one up to where its
+     * last block begins.
      */
     private static final class Table {
         private final Land land;
@@ -911,7 +911,7 @@ public final class TruckWing {
             }
         }
 
-        /** Looks through the last blocks from the latest on and by the least set, so that only a better one replaces. */
+        /** Goes through the last blocks by latest beginning, then by least set: only a better one replaces. */
         private void fillAt(int j) {
             int leg = driveBetween(j - 1, j) + services[order[j]];
             served[j] = served[j - 1] + leg;
@@ -1013,7 +1013,7 @@ public final class TruckWing {
                     + flights[customer * MOST_PLACES + order[j]];
         }
 
-        /** Goes through all ORDERS from the first on; each has its beginning, and so its table's, from the one ahead. */
+        /** Goes through all ORDERS from the first on; each keeps what its beginning shares with the one ahead. */
         private void search(Found found) {
             last = land.customers + 1;
             for (int index = 0; index < last; index++) {

@@ -43,7 +43,8 @@ public final class ReferenceTest {
 
     private static void settle(Random random, TruckWing x, Plain y, int customers) {
         for (int k = 0; k < customers; k++) {
-            int[] f = {random.nextInt(20), random.nextInt(20), random.nextInt(8), random.nextInt(8), random.nextInt(70)};
+            int[] f = {random.nextInt(20), random.nextInt(20), random.nextInt(8), random.nextInt(8),
+                random.nextInt(70)};
             x.customer(f[0], f[1], f[2], f[3], f[4]);
             y.customer(f);
         }
@@ -215,7 +216,8 @@ public final class ReferenceTest {
             int from = random.nextInt(4) == 0 ? near(0, 9) : random.nextInt(y.row.size() + 1);
             int c = near(1, Math.max(1, n));
             int to = random.nextInt(4) == 0 ? near(0, 9) : from + 1;
-            same(at, "fly(" + f + ", " + from + ", " + c + ", " + to + ")", x.fly(f, from, c, to), y.fly(f, from, c, to));
+            same(at, "fly(" + f + ", " + from + ", " + c + ", " + to + ")", x.fly(f, from, c, to),
+                    y.fly(f, from, c, to));
         }
 
         /** A plan that is likely right, or nearly so: else hardly a random one would have times. */
@@ -868,7 +870,7 @@ public final class ReferenceTest {
             return true;
         }
 
-        /** The keys: of each block, its beginning (later is better, so told negative) and its set, from the last back. */
+        /** The keys: of each block from the last back, its beginning (told negative: later is better) and its set. */
         private void blocks(int b, List<Integer> van, List<int[]> flown, List<Integer> key) {
             int last = order.length - 1;
             if (b == last) {
