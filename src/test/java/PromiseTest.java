@@ -38,6 +38,7 @@ public final class PromiseTest {
         promise23();
         promise23Battery();
         promise24();
+        promise24Battery();
         promise24Likes();
         promise25();
         promise26();
@@ -847,6 +848,26 @@ public final class PromiseTest {
         due("take(1), n 0", y.take(1), -1);
     }
 
+    /** Both come back at 9 while the van is there: FLYER 0, launched first, is caught first. */
+    private static void promise24Battery() {
+        promise = 24;
+        TruckWing x = new TruckWing();
+        x.customer(1, 0, 30, 5, 0);
+        x.customer(0, 1, 30, 3, 0);
+        x.set(6, 2);
+        x.set(7, 5);
+        x.set(8, 2);
+        x.set(1, 1);
+        due("both flown: they come back at 9, FLYER 0 is caught till 14, FLYER 1 till 19", x.take(12), 2);
+        due("ends()", x.ends(), 19);
+        due("FLYER 0", x.flown(0, 2), 7);
+        due("FLYER 1", x.flown(1, 2), 10);
+        x.set(5, 10);
+        due("AIR 7 and 10; the other way round it would be 5 and 12", x.take(12), 2);
+        x.set(5, 9);
+        due("AIR 10 is above 9", x.take(12) < 2, true);
+    }
+
     /** Several plans with the least END. */
     private static void promise24Likes() {
         promise = 24;
@@ -932,9 +953,12 @@ public final class PromiseTest {
         TruckWing y = new TruckWing();
         due("alone(0), n 0", y.alone(0), 0);
         due("alone(1), n 0", y.alone(1), 0);
-        for (int k = 0; k < 8; k++) {
+        for (int k = 1; k <= 7; k++) {
             y.customer(k, k, 0, 0, 0);
         }
+        due("alone(0), n 7", y.alone(0), 84);
+        due("alone(1), n 7", y.alone(1), 1234567);
+        y.customer(8, 8, 0, 0, 0);
         due("alone(0), n 8", y.alone(0), -1);
         due("alone(1), n 8", y.alone(1), -1);
     }

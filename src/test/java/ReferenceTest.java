@@ -25,6 +25,9 @@ public final class ReferenceTest {
         for (int seed = 0; seed < 250; seed++) {
             largeSplit(seed);
         }
+        for (int seed = 0; seed < 30000; seed++) {
+            likeSplit(seed);
+        }
         System.out.println(calls + " calls held against the reference, " + failures + " wrong");
         if (failures > 0) {
             System.exit(1);
@@ -95,6 +98,35 @@ public final class ReferenceTest {
             same(where, "best()", x.best(), -1);
             same(where, "bestOrder()", x.bestOrder(), -1);
             same(where, "alone(0)", x.alone(0), -1);
+        }
+    }
+
+    /** Small numbers, so that many plans are alike and only the order among them tells. */
+    private static void likeSplit(int seed) {
+        Random random = new Random(40000 + seed);
+        TruckWing x = new TruckWing();
+        Plain y = new Plain();
+        int n = 2 + random.nextInt(4);
+        int spread = 1 + random.nextInt(3);
+        for (int k = 0; k < n; k++) {
+            int[] f = {random.nextInt(spread), random.nextInt(spread), random.nextInt(4), random.nextInt(3), 0};
+            x.customer(f[0], f[1], f[2], f[3], f[4]);
+            y.customer(f);
+        }
+        int[][] some = {{0, 1 + random.nextInt(2)}, {1, 1 + random.nextInt(2)}, {5, 2 + random.nextInt(8)},
+            {6, random.nextInt(2)}, {7, random.nextInt(3)}, {8, 1 + random.nextInt(2)}, {9, random.nextInt(2)}};
+        for (int[] s : some) {
+            x.set(s[0], s[1]);
+            y.set(s[0], s[1]);
+        }
+        int order = someOrder(random, n);
+        String where = "like split " + seed + " of " + order;
+        same(where, "take", x.take(order), y.take(order));
+        same(where, "ends", x.ends(), y.ends());
+        for (int k = 0; k < y.sorties.size(); k++) {
+            for (int what = 0; what < 4; what++) {
+                same(where, "sortie(" + k + ", " + what + ")", x.sortie(k, what), y.sorties.get(k)[what]);
+            }
         }
     }
 
