@@ -23,7 +23,6 @@ public final class TruckWing {
     private static final int SERVICE = 2;
     private static final int DROP = 3;
     private static final int WEIGHT = 4;
-    private static final int COORDINATES = 2;
     private static final int FACTS = 5;
     private static final int[] FACT_MOST = {50, 50, 30, 30, 99};
 
@@ -383,7 +382,8 @@ public final class TruckWing {
         }
 
         private int fact(int place, int what) {
-            return isPlace(place) && what >= 0 && what < FACTS ? facts[place * FACTS + what] : NONE;
+            boolean isThere = place >= 0 && place <= customers && what >= 0 && what < FACTS;
+            return isThere ? facts[place * FACTS + what] : NONE;
         }
 
         private int setting(int setting) {
@@ -491,7 +491,8 @@ public final class TruckWing {
         }
 
         private int part(int k, int what) {
-            return hasSortie(k) && what >= 0 && what < PARTS ? parts[k * PARTS + what] : NONE;
+            boolean isThere = k >= 0 && k < sorties && what >= 0 && what < PARTS;
+            return isThere ? parts[k * PARTS + what] : NONE;
         }
     }
 
@@ -748,19 +749,17 @@ public final class TruckWing {
         }
 
         private void launch(int k, int minute) {
+            int windX = land.setting(WIND_X);
+            int windY = land.setting(WIND_Y);
             int flyer = plan.part(k, FLYER);
             int customer = plan.part(k, CUSTOMER);
             int begins = plan.placeAt(plan.part(k, FROM));
             int ends = plan.placeAt(plan.part(k, AT));
-            int dropped = minute + flight(begins, customer) + land.fact(customer, DROP);
+            int dropped = minute + land.flight(begins, customer, windX, windY) + land.fact(customer, DROP);
             left[k] = minute;
-            back[k] = dropped + flight(customer, ends);
+            back[k] = dropped + land.flight(customer, ends, windX, windY);
             diary.note(minute, HAS_LAUNCHED, begins, flyer);
             diary.note(dropped, HAS_DROPPED, customer, flyer);
-        }
-
-        private int flight(int from, int to) {
-            return land.flight(from, to, land.setting(WIND_X), land.setting(WIND_Y));
         }
 
         private int lastReady() {
@@ -838,9 +837,9 @@ public final class TruckWing {
         private int battery;
         private boolean hovers;
         private int last;
-        private final int[] drives = new int[MOST_PLACES * MOST_PLACES];
+        /** DRIVE, and SERVICE of the one to which it goes. */
+        private final int[] legs = new int[MOST_PLACES * MOST_PLACES];
         private final int[] flights = new int[MOST_PLACES * MOST_PLACES];
-        private final int[] services = new int[MOST_PLACES];
         private final int[] drops = new int[MOST_PLACES];
         private final boolean[] light = new boolean[MOST_PLACES];
         private final int[] order = new int[MOST_STOPS];
@@ -890,11 +889,10 @@ public final class TruckWing {
             battery = land.setting(BATTERY);
             hovers = land.setting(HOVER) == 1;
             for (int from = 0; from <= land.customers; from++) {
-                services[from] = land.fact(from, SERVICE);
                 drops[from] = land.fact(from, DROP);
                 light[from] = land.isLight(from);
                 for (int to = 0; to <= land.customers; to++) {
-                    drives[from * MOST_PLACES + to] = land.drive(from, to);
+                    legs[from * MOST_PLACES + to] = land.drive(from, to) + land.fact(to, SERVICE);
                     flights[from * MOST_PLACES + to] = land.flight(from, to, windX, windY);
                 }
             }
@@ -904,31 +902,33 @@ public final class TruckWing {
             return ready[last];
         }
 
-        /** Fills the table from an INDEX on; what stands ahead of it belongs to the same beginning of the ORDER. */
+        /**
+         * Fills the table from an INDEX on; what stands ahead of it belongs to the same beginning of the ORDER. Last
+         * blocks go by latest beginning, then by least set: only a better one replaces.
+         */
         private void fill(int first) {
             for (int j = Math.max(1, first); j <= last; j++) {
-                fillAt(j);
-            }
-        }
-
-        /** Goes through the last blocks by latest beginning, then by least set: only a better one replaces. */
-        private void fillAt(int j) {
-            int leg = driveBetween(j - 1, j) + services[order[j]];
-            served[j] = served[j - 1] + leg;
-            ready[j] = ready[j - 1] + leg;
-            sorties[j] = sorties[j - 1];
-            begins[j] = j - 1;
-            sets[j] = 0;
-            for (int i = j - 2; i >= 0 && flyers > 0; i--) {
-                if (soonest(i, j) <= ready[j]) {
-                    offerBlocks(i, j);
+                beginWithVan(j);
+                for (int i = j - 2; i >= 0 && flyers > 0; i--) {
+                    if (soonest(i, j) <= ready[j]) {
+                        offerBlocks(i, j);
+                    }
                 }
             }
         }
 
+        private void beginWithVan(int j) {
+            int minutes = leg(j - 1, j);
+            served[j] = served[j - 1] + minutes;
+            ready[j] = ready[j - 1] + minutes;
+            sorties[j] = sorties[j - 1];
+            begins[j] = j - 1;
+            sets[j] = 0;
+        }
+
         /** No block from i to j ends ahead of this: no way of the van is shorter than the straight one. */
         private int soonest(int i, int j) {
-            return ready[i] + launch + driveBetween(i, j) + services[order[j]] + catching;
+            return ready[i] + launch + leg(i, j) + catching;
         }
 
         private void offerBlocks(int i, int j) {
@@ -999,12 +999,12 @@ public final class TruckWing {
 
         /** What the van spares if it leaves out those at INDICES first to end, and drives straight past them. */
         private int spared(int first, int end) {
-            int straight = driveBetween(first - 1, end + 1) + services[order[end + 1]];
+            int straight = legs[order[first - 1] * MOST_PLACES + order[end + 1]];
             return served[end + 1] - served[first - 1] - straight;
         }
 
-        private int driveBetween(int i, int j) {
-            return drives[order[i] * MOST_PLACES + order[j]];
+        private int leg(int i, int j) {
+            return legs[order[i] * MOST_PLACES + order[j]];
         }
 
         private int trip(int i, int flown, int j) {
@@ -1155,10 +1155,19 @@ public final class TruckWing {
         private static final int SEMICOLON = 3;
         private static final int BAD = 4;
 
+        private static final int TELLS_DEPOT = 0;
+        private static final int TELLS_CUSTOMER = 1;
+        private static final int TELLS_SETTING = 2;
+        private static final int TELLS_ROW = 3;
+        private static final int TELLS_SORTIE = 4;
+        /** How many INTS stand behind each word; behind row, at most so many. */
+        private static final int[] INTS = {2, 5, 2, 8, 4};
+
         private final Tape tape;
         private final Land land = new Land();
         private final Plan plan = new Plan();
-        private final int[] numbers = new int[FACTS];
+        private final int[] numbers = new int[MOST_CUSTOMERS];
+        private int given;
         private int fault;
         private int token;
         private int start;
@@ -1180,126 +1189,113 @@ public final class TruckWing {
                 if (token == END) {
                     return statements;
                 }
-                if (!readStatement()) {
+                int tells = whatIsTold();
+                if (!readStatement(tells)) {
                     return NONE;
                 }
+                apply(tells);
             }
             return NONE;
         }
 
-        private boolean readStatement() {
+        private int whatIsTold() {
             if (isWord("depot")) {
-                return readDepot();
+                return TELLS_DEPOT;
             }
             if (isWord("to")) {
-                return readTo();
+                return TELLS_CUSTOMER;
             }
             if (isWord("set")) {
-                return readSet();
+                return TELLS_SETTING;
             }
             if (isWord("row")) {
-                return readRow();
+                return TELLS_ROW;
             }
-            if (isWord("fly")) {
-                return readFly();
-            }
-            return refuse(CANNOT_STAND);
+            return isWord("fly") ? TELLS_SORTIE : NONE;
         }
 
-        private boolean readDepot() {
-            if (!readFacts(COORDINATES) || !readSemicolon()) {
-                return false;
+        /** From the word, which is the token, to the semicolon. */
+        private boolean readStatement(int tells) {
+            if (tells == NONE) {
+                return refuse(CANNOT_STAND);
             }
-            writeFacts(DEPOT, COORDINATES);
-            return true;
-        }
-
-        private boolean readTo() {
-            if (land.customers >= MOST_CUSTOMERS) {
+            if (tells == TELLS_CUSTOMER && land.customers >= MOST_CUSTOMERS
+                    || tells == TELLS_SORTIE && plan.sorties >= MOST_SORTIES) {
                 return refuse(ONE_TOO_MANY);
             }
-            if (!readFacts(FACTS) || !readSemicolon()) {
-                return false;
-            }
-            land.addCustomer();
-            writeFacts(land.customers, FACTS);
-            return true;
-        }
-
-        private boolean readFacts(int count) {
-            for (int what = 0; what < count; what++) {
-                if (!readNumber(what, 0, FACT_MOST[what])) {
-                    return false;
-                }
-            }
-            return true;
-        }
-
-        private void writeFacts(int place, int count) {
-            for (int what = 0; what < count; what++) {
-                land.putFact(place, what, numbers[what]);
-            }
-        }
-
-        private boolean readSet() {
-            if (!readNumber(0, 0, SETTINGS - 1)) {
-                return false;
-            }
-            int setting = numbers[0];
-            if (!readNumber(1, SETTING_LEAST[setting], SETTING_MOST[setting]) || !readSemicolon()) {
-                return false;
-            }
-            land.putSetting(setting, numbers[1]);
-            return true;
-        }
-
-        private boolean readRow() {
-            plan.empty();
-            for (int read = 0; read <= MOST_BYTES; read++) {
+            for (given = 0; given <= INTS[tells]; given++) {
                 step();
-                if (token == SEMICOLON) {
+                boolean isEnough = given == INTS[tells];
+                if (token == SEMICOLON && (isEnough || tells == TELLS_ROW)) {
                     return true;
                 }
-                if (token != INT) {
+                if (token != INT || isEnough && tells != TELLS_ROW) {
                     return refuse(CANNOT_STAND);
                 }
-                if (!land.isCustomer(value)) {
+                if (value < least(tells) || value > most(tells)) {
                     return refuse(CANNOT_BE);
                 }
-                if (!plan.addStop(value)) {
+                if (isEnough) {
                     return refuse(ONE_TOO_MANY);
                 }
+                numbers[given] = value;
             }
             return false;
         }
 
-        private boolean readFly() {
-            if (plan.sorties >= MOST_SORTIES) {
-                return refuse(ONE_TOO_MANY);
+        /** What the INT behind the given ones is at least. */
+        private int least(int tells) {
+            if (tells == TELLS_SETTING && given == 1) {
+                return SETTING_LEAST[numbers[0]];
             }
-            if (!readNumber(FLYER, 0, 1) || !readNumber(FROM, 0, MOST_STOPS - 1)
-                    || !readNumber(CUSTOMER, 1, land.customers) || !readNumber(AT, 0, MOST_STOPS - 1)
-                    || !readSemicolon()) {
-                return false;
-            }
-            return plan.addSortie(numbers[FLYER], numbers[FROM], numbers[CUSTOMER], numbers[AT]);
+            return tells == TELLS_ROW || tells == TELLS_SORTIE && given == CUSTOMER ? 1 : 0;
         }
 
-        private boolean readNumber(int slot, int least, int most) {
-            step();
-            if (token != INT) {
-                return refuse(CANNOT_STAND);
+        private int most(int tells) {
+            switch (tells) {
+                case TELLS_SETTING:
+                    return given == 0 ? SETTINGS - 1 : SETTING_MOST[numbers[0]];
+                case TELLS_ROW:
+                    return land.customers;
+                case TELLS_SORTIE:
+                    return given == FLYER ? 1 : given == CUSTOMER ? land.customers : MOST_STOPS - 1;
+                default:
+                    return FACT_MOST[given];
             }
-            if (value < least || value > most) {
-                return refuse(CANNOT_BE);
-            }
-            numbers[slot] = value;
-            return true;
         }
 
-        private boolean readSemicolon() {
-            step();
-            return token == SEMICOLON || refuse(CANNOT_STAND);
+        private void apply(int tells) {
+            switch (tells) {
+                case TELLS_DEPOT:
+                    applyFacts(DEPOT);
+                    break;
+                case TELLS_CUSTOMER:
+                    land.addCustomer();
+                    applyFacts(land.customers);
+                    break;
+                case TELLS_SETTING:
+                    land.putSetting(numbers[0], numbers[1]);
+                    break;
+                case TELLS_ROW:
+                    applyRow();
+                    break;
+                default:
+                    plan.addSortie(numbers[FLYER], numbers[FROM], numbers[CUSTOMER], numbers[AT]);
+                    break;
+            }
+        }
+
+        private void applyFacts(int place) {
+            for (int what = 0; what < given; what++) {
+                land.putFact(place, what, numbers[what]);
+            }
+        }
+
+        private void applyRow() {
+            plan.empty();
+            for (int k = 0; k < given; k++) {
+                plan.addStop(numbers[k]);
+            }
         }
 
         private boolean refuse(int kind) {

@@ -5,9 +5,13 @@ import java.lang.reflect.Method;
 import java.lang.reflect.Modifier;
 import java.nio.file.Files;
 import java.nio.file.Path;
+import java.util.ArrayList;
 import java.util.Arrays;
 import java.util.HashSet;
+import java.util.List;
+import java.util.Map;
 import java.util.Set;
+import java.util.TreeMap;
 import java.util.TreeSet;
 import java.util.regex.Matcher;
 import java.util.regex.Pattern;
@@ -28,6 +32,7 @@ public final class FaceTest {
         lookAtFace();
         lookAtClasses();
         lookAtText(Files.readString(Path.of("src/main/java/TruckWing.java")));
+        lookAtDepth(Files.readString(Path.of("src/main/java/TruckWing.java")));
         System.out.println(failures == 0 ? "the face and the text are as due" : failures + " faults");
         if (failures > 0) {
             System.exit(1);
@@ -130,5 +135,42 @@ public final class FaceTest {
                 due(k - start < 60 || lines[k].matches(" {4}\\}"), "rule 11: over sixty lines, end at " + (k + 1));
             }
         }
+    }
+
+    /** Seven of the class and one of the library. Methods of one name count as one: at worst a chain seems longer. */
+    private static void lookAtDepth(String text) {
+        Map<String, Set<String>> calls = new TreeMap<>();
+        String within = "";
+        for (String line : text.split("\n")) {
+            Matcher head = Pattern.compile("^ +(?:public|private) [^=;]*?(\\w+)\\([^=;]*\\{$").matcher(line);
+            if (head.find()) {
+                within = head.group(1);
+                calls.putIfAbsent(within, new TreeSet<>());
+                continue;
+            }
+            Matcher call = Pattern.compile("(new )?\\b(\\w+)\\(").matcher(line.replaceAll("^ *(/\\*|\\*|//).*", ""));
+            while (call.find() && !within.isEmpty()) {
+                calls.get(within).add(call.group(2));
+            }
+        }
+        for (String name : calls.keySet()) {
+            List<String> chain = longest(name, calls, 0);
+            due(chain.size() <= 7, "rule 11: calls too deep: " + chain);
+        }
+        due(calls.size() > 100, "the methods were not found");
+    }
+
+    private static List<String> longest(String name, Map<String, Set<String>> calls, int depth) {
+        List<String> best = new ArrayList<>();
+        if (depth < 20) {
+            for (String callee : calls.get(name)) {
+                if (calls.containsKey(callee)) {
+                    List<String> chain = longest(callee, calls, depth + 1);
+                    best = chain.size() > best.size() ? chain : best;
+                }
+            }
+        }
+        best.add(0, name);
+        return best;
     }
 }
