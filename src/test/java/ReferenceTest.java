@@ -28,6 +28,9 @@ public final class ReferenceTest {
         for (int seed = 0; seed < 30000; seed++) {
             likeSplit(seed);
         }
+        for (int seed = 0; seed < 6; seed++) {
+            lastOrder(seed);
+        }
         System.out.println(calls + " calls held against the reference, " + failures + " wrong");
         if (failures > 0) {
             System.exit(1);
@@ -99,6 +102,53 @@ public final class ReferenceTest {
             same(where, "bestOrder()", x.bestOrder(), -1);
             same(where, "alone(0)", x.alone(0), -1);
         }
+    }
+
+    /** With seven customers: of every order its split; then renumbered, so that the best order is the very last. */
+    private static void lastOrder(int seed) {
+        Random random = new Random(600 + seed);
+        int[][] facts = new int[8][5];
+        for (int c = 1; c <= 7; c++) {
+            facts[c] = new int[] {random.nextInt(51), random.nextInt(51), random.nextInt(9), random.nextInt(9), 0};
+        }
+        TruckWing x = windy(facts, new int[] {0, 1, 2, 3, 4, 5, 6, 7});
+        int least = Integer.MAX_VALUE;
+        int first = 0;
+        int several = 0;
+        for (int order = 1234567; order <= 7654321; order++) {
+            int end = x.split(order);
+            if (end >= 0 && end < least) {
+                least = end;
+                first = order;
+                several = 0;
+            }
+            several += end == least ? 1 : 0;
+        }
+        String where = "last order " + seed;
+        same(where, "best()", x.best(), least);
+        same(where, "bestOrder()", x.bestOrder(), first);
+        if (several == 1) {
+            int[] old = new int[8];
+            for (int c = 1; c <= 7; c++) {
+                old[c] = first % 10;
+                first /= 10;
+            }
+            TruckWing y = windy(facts, old);
+            same(where, "best() renumbered", y.best(), least);
+            same(where, "bestOrder() renumbered", y.bestOrder(), 7654321);
+        }
+    }
+
+    private static TruckWing windy(int[][] facts, int[] old) {
+        TruckWing x = new TruckWing();
+        for (int c = 1; c <= 7; c++) {
+            int[] f = facts[old[c]];
+            x.customer(f[0], f[1], f[2], f[3], f[4]);
+        }
+        x.set(2, 2);
+        x.set(3, -1);
+        x.set(5, 200);
+        return x;
     }
 
     /** Small numbers, so that many plans are alike and only the order among them tells. */
