@@ -1,11 +1,7 @@
 import java.util.NoSuchElementException;
 
 /** For each promise of the document, calls with answers worked out by hand from its words. */
-public final class PromiseTest {
-    private static int failures = 0;
-    private static int calls = 0;
-    private static int promise = 0;
-
+public final class PromiseTest extends Check {
     public static void main(String[] args) {
         promise1();
         promise2();
@@ -45,48 +41,7 @@ public final class PromiseTest {
         promise27();
         promise28();
         neverThrows();
-        System.out.println(calls + " answers looked at, " + failures + " wrong");
-        if (failures > 0) {
-            System.exit(1);
-        }
-    }
-
-    private static void due(String call, long got, long want) {
-        calls++;
-        if (got != want) {
-            failures++;
-            System.out.println("promise " + promise + ": " + call + " answered " + got + ", due is " + want);
-        }
-    }
-
-    private static void due(String call, boolean got, boolean want) {
-        due(call, got ? 1 : 0, want ? 1 : 0);
-    }
-
-    private static void feedText(TruckWing x, String text) {
-        for (int first = 0; first < text.length(); first += 20) {
-            int[] five = new int[5];
-            for (int k = 0; k < 20; k++) {
-                int c = first + k < text.length() ? text.charAt(first + k) : ' ';
-                five[k / 4] = five[k / 4] << 8 | c;
-            }
-            x.feed(five[0], five[1], five[2], five[3], five[4]);
-        }
-        x.end(text.length());
-    }
-
-    private static void told(TruckWing x, String text, int statements) {
-        feedText(x, text);
-        due("tell() of [" + text + "]", x.tell(), statements);
-        due("fault() of [" + text + "]", x.fault(), 0);
-        due("count(3) behind tell()", x.count(3), 0);
-    }
-
-    private static void faulty(TruckWing x, String text, int kind, int place) {
-        feedText(x, text);
-        due("tell() of [" + text + "]", x.tell(), -1);
-        due("fault() of [" + text + "]", x.fault(), kind + 8 * place);
-        due("count(3) behind tell()", x.count(3), 0);
+        finish();
     }
 
     /** Two customers: one light at (4, 0), one heavy at (0, 6). */
@@ -115,7 +70,7 @@ public final class PromiseTest {
     }
 
     private static void promise1() {
-        promise = 1;
+        says("promise 1");
         TruckWing x = new TruckWing();
         int[] first = {3, 2, 0, 0, 50, 100, 1, 1, 1, 1};
         for (int k = 0; k < 10; k++) {
@@ -138,7 +93,7 @@ public final class PromiseTest {
     }
 
     private static void promise2() {
-        promise = 2;
+        says("promise 2");
         TruckWing x = new TruckWing();
         for (int k = 1; k <= 15; k++) {
             due("feed", x.feed(0x20202020, 0x20202020, 0x20202020, 0x20202020, 0x20202020), 20 * k);
@@ -159,7 +114,7 @@ public final class PromiseTest {
     }
 
     private static void promise3() {
-        promise = 3;
+        says("promise 3");
         TruckWing x = new TruckWing();
         due("end(0)", x.end(0), true);
         due("end(1)", x.end(1), false);
@@ -178,7 +133,7 @@ public final class PromiseTest {
     }
 
     private static void promise4() {
-        promise = 4;
+        says("promise 4");
         TruckWing x = new TruckWing();
         told(x, "", 0);
         told(x, " \n ", 0);
@@ -211,7 +166,7 @@ public final class PromiseTest {
     }
 
     private static void promise4Changes() {
-        promise = 4;
+        says("promise 4");
         TruckWing x = two();
         x.go(1);
         x.fly(0, 0, 2, 1);
@@ -237,7 +192,7 @@ public final class PromiseTest {
     }
 
     private static void promise4Tokens() {
-        promise = 4;
+        says("promise 4");
         TruckWing x = new TruckWing();
         told(x, "to1 1 1 1 1;to 2-0 2 2 2;row1 2;set 2-1;set 3\n-\u0031;fly0 0 1 1;", 6);
         due("count(12)", x.count(12), -1);
@@ -254,7 +209,7 @@ public final class PromiseTest {
     }
 
     private static void promise5() {
-        promise = 5;
+        says("promise 5");
         TruckWing x = two();
         due("fault() ahead of any", x.fault(), 0);
         faulty(x, ";", 1, 0);
@@ -299,7 +254,7 @@ public final class PromiseTest {
     }
 
     private static void promise5TooMany() {
-        promise = 5;
+        says("promise 5");
         TruckWing x = new TruckWing();
         x.customer(1, 1, 1, 1, 1);
         told(x, "row 1 1 1 1 1 1 1 1;", 1);
@@ -322,7 +277,7 @@ public final class PromiseTest {
     }
 
     private static void promise6() {
-        promise = 6;
+        says("promise 6");
         TruckWing x = new TruckWing();
         due("x 51", x.customer(51, 0, 0, 0, 0), -1);
         due("y -1", x.customer(0, -1, 0, 0, 0), -1);
@@ -340,7 +295,7 @@ public final class PromiseTest {
     }
 
     private static void promise7() {
-        promise = 7;
+        says("promise 7");
         TruckWing x = two();
         x.go(1);
         x.fly(0, 0, 2, 1);
@@ -358,7 +313,7 @@ public final class PromiseTest {
     }
 
     private static void promise8() {
-        promise = 8;
+        says("promise 8");
         TruckWing x = new TruckWing();
         int[] least = {1, 1, -3, -3, 0, 1, 0, 0, 0, 0};
         int[] most = {9, 9, 3, 3, 99, 999, 9, 9, 2, 1};
@@ -378,7 +333,7 @@ public final class PromiseTest {
     }
 
     private static void promise9() {
-        promise = 9;
+        says("promise 9");
         TruckWing x = two();
         x.fly(0, 0, 1, 1);
         due("go(0)", x.go(0), -1);
@@ -400,7 +355,7 @@ public final class PromiseTest {
     }
 
     private static void promise10() {
-        promise = 10;
+        says("promise 10");
         TruckWing x = two();
         due("flyer 2", x.fly(2, 0, 1, 1), -1);
         due("flyer -1", x.fly(-1, 0, 1, 1), -1);
@@ -419,7 +374,7 @@ public final class PromiseTest {
     }
 
     private static void promise11() {
-        promise = 11;
+        says("promise 11");
         TruckWing x = two();
         due("undo(true)", x.undo(true), -1);
         due("undo(false)", x.undo(false), -1);
@@ -440,7 +395,7 @@ public final class PromiseTest {
     }
 
     private static void promise12() {
-        promise = 12;
+        says("promise 12");
         TruckWing x = two();
         x.go(1);
         x.fly(0, 0, 2, 1);
@@ -455,7 +410,7 @@ public final class PromiseTest {
     }
 
     private static void promise13() {
-        promise = 13;
+        says("promise 13");
         TruckWing x = two();
         x.go(1);
         x.fly(0, 0, 1, 1);
@@ -474,7 +429,7 @@ public final class PromiseTest {
     }
 
     private static void promise14() {
-        promise = 14;
+        says("promise 14");
         TruckWing x = new TruckWing();
         x.customer(1, 2, 3, 4, 5);
         for (int what = 0; what < 5; what++) {
@@ -493,7 +448,7 @@ public final class PromiseTest {
     }
 
     private static void promise15() {
-        promise = 15;
+        says("promise 15");
         TruckWing x = new TruckWing();
         x.customer(4, 1, 0, 0, 0);
         x.customer(2, 7, 0, 0, 0);
@@ -521,7 +476,7 @@ public final class PromiseTest {
     }
 
     private static void promise16() {
-        promise = 16;
+        says("promise 16");
         TruckWing x = two();
         x.fly(1, 2, 1, 3);
         x.fly(0, 7, 2, 4);
@@ -543,7 +498,7 @@ public final class PromiseTest {
     }
 
     private static void promise17() {
-        promise = 17;
+        says("promise 17");
         TruckWing x = two();
         due("nobody serves 1", x.wrong(), 3 + 16);
         x.go(1);
@@ -583,7 +538,7 @@ public final class PromiseTest {
 
     /** Which kind, and of one kind which number, is told first. */
     private static void promise17Order() {
-        promise = 17;
+        says("promise 17");
         TruckWing x = new TruckWing();
         for (int k = 1; k <= 4; k++) {
             x.customer(k, 0, 0, 0, k == 4 ? 90 : 10);
@@ -619,7 +574,7 @@ public final class PromiseTest {
     }
 
     private static void promise18() {
-        promise = 18;
+        says("promise 18");
         TruckWing x = meeting();
         due("ends()", x.ends(), 91);
         x.set(7, 1);
@@ -639,7 +594,7 @@ public final class PromiseTest {
     }
 
     private static void promise19() {
-        promise = 19;
+        says("promise 19");
         TruckWing x = meeting();
         int[][] due = {{0, 0, 0, 4, 0}, {3, 24, 71, 71, 35}, {0, 91, 91, 91, 0}};
         for (int index = 0; index < 3; index++) {
@@ -665,7 +620,7 @@ public final class PromiseTest {
     }
 
     private static void promise20() {
-        promise = 20;
+        says("promise 20");
         TruckWing x = meeting();
         int[][] due = {{2, 65, 63, 0}, {4, 66, 64, 2}};
         for (int k = 0; k < 2; k++) {
@@ -686,7 +641,7 @@ public final class PromiseTest {
 
     /** Of like ones FLYER 0 is caught first, and launched first, though its SORTIE has the greater number. */
     private static void promise20Catching() {
-        promise = 20;
+        says("promise 20");
         TruckWing x = new TruckWing();
         x.customer(10, 0, 0, 0, 0);
         x.customer(0, 10, 0, 0, 0);
@@ -710,7 +665,7 @@ public final class PromiseTest {
     }
 
     private static void promise21() {
-        promise = 21;
+        says("promise 21");
         TruckWing x = meeting();
         int[][] due = {{0, 0, 0, -1}, {2, 3, 0, 0}, {4, 3, 0, 1}, {24, 0, 3, -1}, {30, 1, 3, -1}, {35, 4, 1, 0},
             {36, 4, 2, 1}, {68, 2, 3, 0}, {71, 2, 3, 1}, {91, 0, 0, -1}};
@@ -734,7 +689,7 @@ public final class PromiseTest {
 
     /** Of like minutes by kind, then by PLACE, then by FLYER. */
     private static void promise21Likes() {
-        promise = 21;
+        says("promise 21");
         TruckWing x = new TruckWing();
         x.customer(5, 0, 0, 0, 0);
         x.customer(0, 5, 0, 0, 0);
@@ -756,7 +711,7 @@ public final class PromiseTest {
     }
 
     private static void promise22() {
-        promise = 22;
+        says("promise 22");
         TruckWing x = meeting();
         due("waits", x.sum(0), 35);
         due("drives", x.sum(1), 40);
@@ -775,7 +730,7 @@ public final class PromiseTest {
     }
 
     private static void promise23() {
-        promise = 23;
+        says("promise 23");
         TruckWing x = new TruckWing();
         due("split(0), n 0", x.split(0), 0);
         due("split(1), n 0", x.split(1), -1);
@@ -803,7 +758,7 @@ public final class PromiseTest {
     }
 
     private static void promise23Battery() {
-        promise = 23;
+        says("promise 23");
         TruckWing x = two();
         x.set(5, 21);
         due("AIR 21", x.split(12), 41);
@@ -822,7 +777,7 @@ public final class PromiseTest {
     }
 
     private static void promise24() {
-        promise = 24;
+        says("promise 24");
         TruckWing x = two();
         x.go(1);
         x.fly(1, 9, 1, 9);
@@ -850,7 +805,7 @@ public final class PromiseTest {
 
     /** Both come back at 9 while the van is there: FLYER 0, launched first, is caught first. */
     private static void promise24Battery() {
-        promise = 24;
+        says("promise 24");
         TruckWing x = new TruckWing();
         x.customer(1, 0, 30, 5, 0);
         x.customer(0, 1, 30, 3, 0);
@@ -870,7 +825,7 @@ public final class PromiseTest {
 
     /** Several plans with the least END. */
     private static void promise24Likes() {
-        promise = 24;
+        says("promise 24");
         TruckWing x = new TruckWing();
         x.customer(0, 0, 2, 0, 0);
         x.set(6, 0);
@@ -897,7 +852,7 @@ public final class PromiseTest {
     }
 
     private static void promise25() {
-        promise = 25;
+        says("promise 25");
         TruckWing x = new TruckWing();
         due("best(), n 0", x.best(), 0);
         x.customer(5, 0, 1, 0, 99);
@@ -918,7 +873,7 @@ public final class PromiseTest {
     }
 
     private static void promise26() {
-        promise = 26;
+        says("promise 26");
         TruckWing x = new TruckWing();
         due("bestOrder(), n 0", x.bestOrder(), 0);
         x.customer(5, 0, 1, 0, 99);
@@ -937,7 +892,7 @@ public final class PromiseTest {
     }
 
     private static void promise27() {
-        promise = 27;
+        says("promise 27");
         TruckWing x = two();
         due("alone(0)", x.alone(0), 65);
         due("alone(1)", x.alone(1), 12);
@@ -964,7 +919,7 @@ public final class PromiseTest {
     }
 
     private static void promise28() {
-        promise = 28;
+        says("promise 28");
         TruckWing x = new TruckWing();
         x.customer(10, 0, 30, 0, 0);
         x.customer(10, 10, 0, 0, 99);
@@ -998,7 +953,7 @@ public final class PromiseTest {
 
     /** Odd arguments in odd states: what is thrown, but for sortie's, ends the test. */
     private static void neverThrows() {
-        promise = 0;
+        says("promise 0");
         int[] odd = {Integer.MIN_VALUE, -100, -2, -1, 0, 1, 2, 7, 8, 9, 10, 11, 100, 87654321, Integer.MAX_VALUE};
         for (int state = 0; state < 4; state++) {
             for (int a : odd) {
