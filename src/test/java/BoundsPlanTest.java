@@ -159,7 +159,8 @@ public final class BoundsPlanTest extends Check {
 
     private static void notLight() {
         says("LIGHT is a CUSTOMER with WEIGHT LIFT or less; WRONG 4 a SORTIE whose CUSTOMER is not LIGHT");
-        int[][] all = {{50, 50, 0}, {51, 50, 4}, {49, 50, 0}, {0, 0, 0}, {1, 0, 4}, {99, 99, 0}, {99, 98, 4}, {0, 99, 0}};
+        int[][] all = {{50, 50, 0}, {51, 50, 4}, {49, 50, 0}, {0, 0, 0}, {1, 0, 4}, {99, 99, 0}, {99, 98, 4},
+            {0, 99, 0}};
         for (int[] a : all) {
             TruckWing x = new TruckWing();
             x.customer(1, 0, 0, 0, a[0]);
@@ -647,7 +648,7 @@ public final class BoundsPlanTest extends Check {
         y.set(6, 1);
         int[] due = {1 + 4, 10 + 10, 10 + 10, 0};
         for (int what = 0; what < 4; what++) {
-            due("the van at 12, FLYER 0 at 13, caught till 17, FLYER 1 at 21: sum(" + what + ")", y.sum(what), due[what]);
+            due("FLYER 0 at 13, caught till 17, FLYER 1 at 21: sum(" + what + ")", y.sum(what), due[what]);
         }
         TruckWing z = meeting(1, 0);
         due("FLYER 0 at 11, caught from 14: sum(3)", z.sum(3), 3);
