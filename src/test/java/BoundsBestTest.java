@@ -17,7 +17,11 @@ public final class BoundsBestTest extends Check {
         lightOnes();
         lastingOnes();
         lastingOnesCaughtSecond();
+        launchAndCatchInABlock();
+        caughtByWhenTheyCome();
         fewestSorties();
+        fewestAheadOfLatest();
+        fewestOfTwoFlyers();
         lastBlockBeginsLatest();
         leastSet();
         leastSetOfTwo();
@@ -34,6 +38,7 @@ public final class BoundsBestTest extends Check {
         windEach();
         windOutside();
         windFirstOfSeveral();
+        windTheVeryFirst();
         finish();
     }
 
@@ -298,6 +303,79 @@ public final class BoundsBestTest extends Check {
         }
     }
 
+    private static void fewestAheadOfLatest() {
+        says("Terms 3: the fewest SORTIES; of these that whose last BLOCK begins latest");
+        TruckWing x = new TruckWing();
+        x.customer(0, 0, 4, 0, 0);
+        x.customer(0, 0, 4, 0, 0);
+        x.customer(0, 0, 5, 2, 0);
+        x.set(6, 0);
+        x.set(7, 0);
+        due("1 flown, 2, 3 flown: 4 + 4; or 1, then 2 while 3 is flown: 4 + 4", x.split(123), 8);
+        due("take(123)", x.take(123), 1);
+        rowDue(x, 1, 2);
+        sortieDue(x, 0, 0, 1, 3, 3);
+        TruckWing y = new TruckWing();
+        y.customer(1, 0, 2, 1, 0);
+        y.customer(0, 0, 0, 0, 0);
+        y.customer(1, 0, 3, 0, 0);
+        y.set(0, 2);
+        y.set(1, 1);
+        y.set(7, 0);
+        due("1 flown, 2, 3 flown: 4 + 3; or 1, then 2 while 3 is flown: 4 + 3", y.split(123), 7);
+        due("take(123)", y.take(123), 1);
+        rowDue(y, 1, 2);
+        sortieDue(y, 0, 0, 1, 3, 3);
+    }
+
+    private static void fewestOfTwoFlyers() {
+        says("Terms 3: of several with the fewest SORTIES (one, not two)");
+        TruckWing x = new TruckWing();
+        x.customer(0, 0, 2, 1, 0);
+        x.customer(0, 0, 1, 1, 0);
+        x.customer(0, 0, 3, 0, 0);
+        x.set(6, 0);
+        x.set(7, 0);
+        x.set(8, 2);
+        due("1 and 2 flown while the van is at 3; or 3 flown", x.split(123), 3);
+        due("take(123)", x.take(123), 1);
+        rowDue(x, 1, 2);
+        sortieDue(x, 0, 0, 0, 3, 3);
+    }
+
+    private static void launchAndCatchInABlock() {
+        says("Terms 3: all launched at b and caught at the next one (LAUNCH, CATCH minutes each)");
+        TruckWing x = spot(2, 30, 0);
+        x.set(8, 2);
+        x.set(6, 2);
+        x.set(7, 3);
+        due("they leave at 2, 4, come at 4, 6, are caught till 7, 10", x.split(12), 10);
+        x.set(6, 9);
+        x.set(7, 9);
+        due("they leave at 9, 18, come at 11, 20, are caught till 27, 36", x.split(12), 36);
+        due("take(12)", x.take(12), 2);
+        due("ends()", x.ends(), 36);
+        x.set(8, 1);
+        due("one by the van till 39, the other caught till 48", x.split(12), 48);
+        x.set(5, 29);
+        due("BATTERY 29: 1 by the van, then 2 flown: 30 + 9 + 2 + 9", x.split(12), 50);
+    }
+
+    private static void caughtByWhenTheyCome() {
+        says("Terms 2, 3: caught by when they come");
+        int[][] all = {{10, 16}, {3, 10}, {4, 10}, {5, 11}, {0, 10}};
+        for (int[] a : all) {
+            TruckWing x = new TruckWing();
+            x.customer(0, 0, 30, a[0], 0);
+            x.customer(0, 0, 30, 0, 0);
+            x.set(6, 0);
+            x.set(7, 4);
+            x.set(8, 2);
+            due("DROP " + a[0] + ": FLYER 1 is caught from 2 to 6, or both come at 2", x.split(12), a[1]);
+            due("the other way round", x.split(21), a[1]);
+        }
+    }
+
     private static void lastBlockBeginsLatest() {
         says("Terms 3: of these that whose last BLOCK begins latest");
         TruckWing x = spot(2, 3, 0);
@@ -539,5 +617,19 @@ public final class BoundsBestTest extends Check {
             due("wind(12, " + w + "): the flyer by 30, or the van alone", z.wind(12, w), due[w]);
         }
         due("the first of 5, 7, 8", z.wind(12, -1), 5);
+    }
+
+    /** All as with windy(), turned round. */
+    private static void windTheVeryFirst() {
+        says("28: w NONE: the first of those by which it is least (0)");
+        TruckWing x = new TruckWing();
+        x.customer(30, 10, 30, 0, 0);
+        x.customer(40, 20, 0, 0, 99);
+        told(x, "depot 50 50;set 0 2;set 1 3;set 5 200;", 4);
+        for (int w = 0; w <= 7; w++) {
+            due("wind(12, " + w + ")", x.wind(12, w), 192 + 10 * w);
+        }
+        due("wind(12, 8): the van alone", x.wind(12, 8), 270);
+        due("wind(12, -1)", x.wind(12, -1), 0);
     }
 }
