@@ -30,6 +30,8 @@ public final class FaceTest {
 
     public static void main(String[] args) throws IOException {
         lookAtFace();
+        lookAtWords(Files.readString(Path.of("../shared/DOC.md")),
+                Files.readString(Path.of("src/main/java/TruckWing.java")));
         lookAtClasses();
         lookAtText(Files.readString(Path.of("src/main/java/TruckWing.java")));
         lookAtDepth(Files.readString(Path.of("src/main/java/TruckWing.java")));
@@ -64,6 +66,26 @@ public final class FaceTest {
             due(isNone || Modifier.isPrivate(f.getModifiers()), "a field that is seen: " + f);
         }
         due(TruckWing.class.getModifiers() == (Modifier.PUBLIC | Modifier.FINAL), "the class is public and final");
+    }
+
+    /** The document's face and the class's public lines, in their order, with the names of the parameters. */
+    private static void lookAtWords(String document, String text) {
+        Matcher block = Pattern.compile("(?s)## The public face\\s+```java\n(.*?)```").matcher(document);
+        due(block.find(), "the document has no face");
+        due(seen(block.group(1)).size() == FACE.length + 4, "the document's face was not read: " + seen(block.group(1)));
+        due(seen(text).equals(seen(block.group(1))), "the document has " + seen(block.group(1)) + ", the class has "
+                + seen(text));
+    }
+
+    /** The import, and what is public, without what stands behind its head. */
+    private static List<String> seen(String text) {
+        List<String> lines = new ArrayList<>();
+        for (String line : text.split("\n")) {
+            if (line.matches("import .*|( {4})?public .*")) {
+                lines.add(line.replaceAll("( \\{|;)$", ""));
+            }
+        }
+        return lines;
     }
 
     private static String shown(Method m) {

@@ -33,6 +33,8 @@ public final class PromiseTest extends Check {
         promise22();
         promise23();
         promise23Battery();
+        promise23Two();
+        promise23Fewer();
         promise24();
         promise24Battery();
         promise24Likes();
@@ -40,6 +42,7 @@ public final class PromiseTest extends Check {
         promise26();
         promise27();
         promise28();
+        promise28First();
         neverThrows();
         finish();
     }
@@ -776,6 +779,40 @@ public final class PromiseTest extends Check {
         due("3 flown: the van 2 + 10 + 5 + 20 + 4 + 10, and CATCH", y.split(123), 54);
     }
 
+    /** Two that stand beside each other in the ORDER are flown, and the van drives past both. */
+    private static void promise23Two() {
+        says("promise 23");
+        String flown = "to 10 0 10 0 0;to 0 10 10 0 0;set 1 1;set 6 2;set 7 3;set 8 2;";
+        TruckWing x = new TruckWing();
+        told(x, flown + "to 1 1 0 0 99;", 7);
+        due("back at the DEPOT at 22 and 24, caught till 25 and 28", x.split(123), 28);
+        due("take(123)", x.take(123), 2);
+        due("caught at the DEPOT", x.sortie(0, 3), 2);
+        due("FLYER 1 flies to 2", x.sortie(1, 2), 2);
+        x.set(7, 0);
+        due("FLYER 1 leaves at 4 and is back at 24", x.split(123), 24);
+        TruckWing y = new TruckWing();
+        told(y, flown + "to 1 1 20 0 99;", 7);
+        due("the van 4 + 6 + 20 + 6, and CATCH twice", y.split(123), 42);
+        due("take(123)", y.take(123), 2);
+        due("the last BLOCK begins latest: caught at 3", y.sortie(0, 3), 1);
+    }
+
+    /** An ORDER of fewer CUSTOMERS than the one ahead. */
+    private static void promise23Fewer() {
+        says("promise 23");
+        TruckWing x = two();
+        x.customer(9, 9, 9, 9, 99);
+        due("split(123): 1 + 18 + 3 + 1 + 36 + 9 + 54", x.split(123), 122);
+        x.drop();
+        due("split(12)", x.split(12), 41);
+        due("split(123)", x.split(123), -1);
+        x.drop();
+        due("split(1)", x.split(1), 19);
+        x.drop();
+        due("split(0)", x.split(0), 0);
+    }
+
     private static void promise24() {
         says("promise 24");
         TruckWing x = two();
@@ -949,6 +986,23 @@ public final class PromiseTest extends Check {
         due("wind(0, -1), n 0", y.wind(0, -1), 0);
         due("wind(0, 3), n 0", y.wind(0, 3), 0);
         due("wind(0, 9), n 0", y.wind(0, 9), -1);
+    }
+
+    /** The flyer goes round a corner, so that only the WIND 0, -1 helps on both of its ways. */
+    private static void promise28First() {
+        says("promise 28");
+        TruckWing x = new TruckWing();
+        told(x, "depot 0 10;to 5 5 30 30 0;to 0 0 0 0 99;to 40 0 0 0 99;", 4);
+        told(x, "set 0 1;set 1 1;set 5 40;set 6 0;set 7 0;", 5);
+        int[] due = {126, 122, 126, 140, 130, 140, 140, 140, 140};
+        for (int w = 0; w < 9; w++) {
+            due("wind(123, " + w + ")", x.wind(123, w), due[w]);
+        }
+        due("neither the first nor the last one", x.wind(123, -1), 1);
+        x.set(5, 35);
+        due("AIR 32 with WIND 1 alone", x.wind(123, -1), 1);
+        x.set(5, 31);
+        due("none lasts: all are alike", x.wind(123, -1), 0);
     }
 
     /** Odd arguments in odd states: what is thrown, but for sortie's, ends the test. */
